@@ -1342,13 +1342,7 @@ public final class SmokeRings {
         }
 
         void weigh(int c, int last) {
-            windySteps = 0;
-            for (int step = 0; step <= last && step <= LAST_STILL; step++) {
-                if (told.wind[step] != NONE && windySteps < windy.length) {
-                    windy[windySteps] = step;
-                    windySteps++;
-                }
-            }
+            findWindy(last);
             Arrays.fill(weights, 0);
             trial.becomes(told);
             for (int calms = 0; calms < 1 << windySteps; calms++) {
@@ -1356,6 +1350,21 @@ public final class SmokeRings {
                 long weight = power(c, calm) * power(SIXTEENTHS - c, windySteps - calm);
                 if (weight > 0) {
                     weighCalms(calms, weight);
+                }
+            }
+        }
+
+        /** A calm changes nothing where there is no wind, nor up to the step in which the first ring is blown. */
+        private void findWindy(int last) {
+            int first = STEPS;
+            for (int r = 0; r < told.rings; r++) {
+                first = Math.min(first, told.blown[r]);
+            }
+            windySteps = 0;
+            for (int step = 0; step <= last && step <= LAST_STILL; step++) {
+                if (step > first && told.wind[step] != NONE && windySteps < windy.length) {
+                    windy[windySteps] = step;
+                    windySteps++;
                 }
             }
         }

@@ -75,6 +75,7 @@ public final class PromiseTest {
         SmokeRings x = with("..;..", "", "");
         due("wipe(0)", x.wipe(0), 5);
         due("wipe(0) again", x.wipe(0), 0);
+        due("fault(0) of a wiped one", x.fault(0), NONE);
         due("count(0)", x.count(0), 0);
         due("wipe(-1)", x.wipe(-1), BAD);
         due("wipe(3)", x.wipe(3), BAD);
@@ -89,6 +90,8 @@ public final class PromiseTest {
         due("undo(0)", x.undo(0), 1);
         due("undo(0)", x.undo(0), 0);
         due("undo(0) of none", x.undo(0), NOT);
+        type(x, 2, "n");
+        due("undo(2)", x.undo(2), 0);
         due("undo(-1)", x.undo(-1), BAD);
         due("undo(3)", x.undo(3), BAD);
     }
@@ -166,6 +169,11 @@ public final class PromiseTest {
         due("widens(0)", x.widens(0), BAD);
         due("widens(5)", x.widens(5), BAD);
         due("widens(4)", x.widens(4), 4);
+        type(x, 0, "..");
+        x.blow(0, 0, 1, 1, 0);
+        due("at(19, 0, 2)", x.at(19, 0, 2), 5);
+        x.widens(3);
+        due("at(19, 0, 2), wider", x.at(19, 0, 2), 7);
     }
 
     private static void blowing() {
@@ -222,6 +230,10 @@ public final class PromiseTest {
         due("read(0), the third not whole", x.read(0), 2);
         due("ring(0, 4)", x.ring(0, 4), 3);
         due("ring(1, 3)", x.ring(1, 3), 1);
+        due("ring(0, 0)", x.ring(0, 0), 1);
+        due("ring(0, 1)", x.ring(0, 1), 2);
+        due("ring(0, 2)", x.ring(0, 2), 3);
+        due("ring(0, 3)", x.ring(0, 3), 4);
         fill(x, 1, 2, 0, 0, 0, 1, 0, 20, 0, 0, 1, 0, 0, 0, 0, 1, 0);
         due("read(1), the second not as it may be", x.read(1), 1);
         x.sheet(2, 1, 4);
@@ -232,6 +244,11 @@ public final class PromiseTest {
         due("read(2), as there is room", x.read(2), 5);
         due("read(2) without room", x.read(2), 0);
         due("count(5)", x.count(5), 8);
+        SmokeRings y = with(".", "001p", "");
+        due("missed() before", y.missed(), 0);
+        fill(y, 3, 1, 0, 0, 0, 1, 2);
+        due("read(3) of just one", y.read(3), 1);
+        due("bound(0, 2)", y.bound(0, 2), 2);
     }
 
     private static void looks() {
@@ -259,6 +276,9 @@ public final class PromiseTest {
         due("at(0, -1, 0)", x.at(0, -1, 0), BAD);
         due("at(0, 0, 4)", x.at(0, 0, 4), BAD);
         due("at(0, 0, -1)", x.at(0, 0, -1), BAD);
+        for (int r = 3; r < 8; r++) x.blow(19, r - 3, 1, r, 0);
+        dueAt(x, 19, 7, 1, 4, 1, 7);
+        dueAt(x, 18, 7, 0, NONE, 0, 7);
     }
 
     private static void windsAndWalls() {
@@ -293,6 +313,19 @@ public final class PromiseTest {
         dueAt(x, 9, 1, 4, 1, 10, 0);
         retype(x, 2, ".........n");
         dueAt(x, 9, 1, 3, 0, 9, 0);
+        // a row's end is an edge, though the next row begins behind it
+        SmokeRings y = with("..;..;..", "", "");
+        y.blow(0, 2, 3, 1, 0);
+        y.blow(0, 1, 1, 1, 0);
+        y.blow(0, 4, 2, 1, 0);
+        y.blow(5, 0, 0, 1, 0);
+        dueAt(y, 1, 0, 3, 2, 1, 0);
+        dueAt(y, 1, 1, 3, 1, 1, 0);
+        dueAt(y, 1, 2, 3, 4, 1, 0);
+        dueAt(y, 6, 3, 3, 0, 1, 0);
+        retype(y, 2, ".....eww");
+        y.blow(4, 3, 0, 1, 0);
+        dueAt(y, 5, 4, 3, 1, 1, 0);
     }
 
     private static void meetings() {
@@ -404,6 +437,10 @@ public final class PromiseTest {
         x.blow(2, 2, 3, 1, 2);
         due("throughs(0), with two that break", x.throughs(0), 2);
         due("throughs(1)", x.throughs(1), 3);
+        x.back();
+        x.back();
+        due("throughs(0), undone", x.throughs(0), 0);
+        due("throughs(1), undone", x.throughs(1), NONE);
         due("throughs(2)", x.throughs(2), BAD);
         due("throughs(-1)", x.throughs(-1), BAD);
     }
@@ -439,6 +476,9 @@ public final class PromiseTest {
         due("lonely() of like steps", x.lonely(), 0);
         x.blow(1, 1, 0, 1, 0);
         due("lonely()", x.lonely(), 1);
+        x.blow(0, 2, 0, 1, 0);
+        x.blow(0, 1, 0, 1, 0);
+        due("lonely(), both in step 0", x.lonely(), 0);
     }
 
     private static void breaths() {
@@ -473,6 +513,13 @@ public final class PromiseTest {
         retype(y, 1, "007p");
         retype(y, 2, ".wwwwwwww");
         due("breath(0, 0), held by the wind", y.breath(0, 0), 6);
+        y.widens(3);
+        retype(y, 1, "004b");
+        retype(y, 2, ".wwwwwwwwww");
+        due("breath(0, 0), held by the wind for 9 steps", y.breath(0, 0), 9);
+        due("aim(0, 1), held by the wind for 9 steps", y.aim(0, 1), 9);
+        y.widens(1);
+        due("breath(0, 0) of a beast", y.breath(0, 0), 3);
     }
 
     private static void aims() {
@@ -535,6 +582,16 @@ public final class PromiseTest {
         due("hush(0, NONE)", x.hush(0, NONE), 1);
         due("hush(0, 0)", x.hush(0, 0), 1);
         due("hush(0, 1)", x.hush(0, 1), NONE);
+        x.back();
+        x.back();
+        x.blow(3, 0, 0, 1, 0);
+        x.blow(0, 0, 0, 1, 0);
+        due("hush(0, 0)", x.hush(0, 0), 0);
+        due("hush(0, 1)", x.hush(0, 1), 1);
+        x.back();
+        x.back();
+        x.blow(3, 1, 0, 1, 0);
+        x.blow(0, 0, 0, 1, 0);
         x.blow(2, 0, 0, 1, 0);
         due("hush(0, NONE)", x.hush(0, NONE), 2);
         due("hush(0, 0)", x.hush(0, 0), 1);
@@ -557,6 +614,10 @@ public final class PromiseTest {
         due("calm(1)", x.calm(1), 1);
         retype(x, 2, ".ewww");
         due("calm(0)", x.calm(0), 3);
+        retype(x, 2, "...wwww");
+        due("calm(0), one step is not enough", x.calm(0), 0);
+        due("calm(1), one step is not enough", x.calm(1), 0);
+        retype(x, 2, ".ewww");
         due("wind(3) as it was", x.wind(3), 3);
         retype(x, 2, "");
         due("calm(0), no better", x.calm(0), 0);
@@ -585,6 +646,11 @@ public final class PromiseTest {
         due("free(1, 3, 1), thing 2", x.free(1, 3, 1), 2);
         due("free(0, 5, 0), thing 1", x.free(0, 5, 0), 1);
         due("free(2, 0, NONE), nothing", x.free(2, 0, NONE), 0);
+        x = household(0, 3, 3);
+        due("free(3, 0, NONE), things 1 and 2", x.free(3, 0, NONE), 2);
+        due("free(3, 0, 0), things 1 and 2", x.free(3, 0, 0), 1);
+        due("free(3, 0, 1), things 1 and 2", x.free(3, 0, 1), 2);
+        due("free(3, 4, 0), thing 1", x.free(3, 4, 0), 1);
         due("free(-1, 0, 0)", x.free(-1, 0, 0), BAD);
         due("free(4, 0, 0)", x.free(4, 0, 0), BAD);
         due("free(0, -1, 0)", x.free(0, -1, 0), BAD);
@@ -632,6 +698,11 @@ public final class PromiseTest {
         due("never()", x.never(), 6);
         x.seen(2, 4);
         due("never() by a thing that there is not", x.never(), 0);
+        for (int whom = 0; whom < 4; whom++) {
+            x.forget();
+            x.seen(2, whom);
+            due("never() by a thing that there is not", x.never(), 0);
+        }
     }
 
     private static void whences() {
@@ -695,6 +766,13 @@ public final class PromiseTest {
         x.forget();
         x.seen(0, 1);
         due("ask() of what cannot be", x.ask(), 0);
+        SmokeRings y = with(".", "001t", "");
+        for (int r = 0; r < 8; r++) y.blow(r, 0, 0, 1, 1);
+        y.back();
+        due("ask() of 7 rings", y.ask(), 0);
+        SmokeRings z = with(".", "009t", "");
+        for (int r = 0; r < 8; r++) z.blow(r, 0, 0, 1, 1);
+        due("ask() of 8 like ones", z.ask(), 0);
     }
 
     private static void dueStill(SmokeRings x, int c, int last, int whom, long above, long below) {
@@ -729,6 +807,18 @@ public final class PromiseTest {
         // steps 1 to 8: it is on cell 0 and 3 wide in step 8
         due("still of 8 calm steps, above", y.still(3, 9, 0, 1, 0), 6561);
         due("still of 8 calm steps, below", y.still(3, 9, 0, 1, 1), 1L << 32);
+        // the tenth step, and wind from the south
+        retype(y, 1, "011p");
+        retype(y, 2, "nnnnnnnnnn");
+        y.back();
+        y.back();
+        y.blow(8, 13, 0, 1, 2);
+        due("still: no such cell", y.still(3, 9, 0, 2, 0), 0);
+        y.back();
+        y.blow(8, 7, 0, 1, 2);
+        due("still of the tenth step, above", y.still(3, 9, 0, 2, 0), 3);
+        due("still of the tenth step, below", y.still(3, 9, 0, 2, 1), 16);
+        due("still of nine steps, above", y.still(3, 8, 0, 2, 0), 0);
         long least = Long.MIN_VALUE;
         due("still(-1, ..)", x.still(-1, 0, 0, 0, 0), least + 2);
         due("still(17, ..)", x.still(17, 0, 0, 0, 0), least + 2);
@@ -809,6 +899,11 @@ public final class PromiseTest {
         due("lose(1) again", x.lose(1), NULL);
         due("count(8)", x.count(8), 1);
         due("lose(0)", x.lose(0), 0);
+        x.sheet(3, 0, 2);
+        due("lay(3, 0, 1, 5)", x.lay(3, 0, 1, 5), 1);
+        due("get(3, 0, 1)", x.get(3, 0, 1), 5);
+        due("copy(3, 1, 3, 0, 1)", x.copy(3, 1, 3, 0, 1), 1);
+        due("lose(3)", x.lose(3), 2);
         due("lose(-1)", x.lose(-1), BAD);
         due("lose(4)", x.lose(4), BAD);
     }
@@ -904,6 +999,8 @@ public final class PromiseTest {
         due("get(1, 2, 20)", x.get(1, 2, 20), 77);
         x.sheet(2, 1, 0);
         due("write(0, 2)", x.write(0, 2), 0);
+        x.sheet(3, 1, 3);
+        due("write(0, 3)", x.write(0, 3), 3);
     }
 
     private static void counts() {
@@ -961,6 +1058,46 @@ public final class PromiseTest {
         for (int whom = 0; whom < 4; whom++) h = mixed(h, 0, 0, 0, -1);
         h = mixed(h, 0, -1, 1, -1, -1, 0, 0, 1, 30, -1, 0, 0);
         due("digest() of a ring without things", y.digest(), h);
+        dueDigest(blown(with("......;..#...;......", "002p;053b;074t;131p;102t;112b;141p;179t", ".e.w.n.s.eewwnn")));
+        dueDigest(blown(with(".", "001p;001b;001t", ".")));
+        dueDigest(household(1, 1, 1));
+        SmokeRings z = with("..", "003p", "");
+        z.blow(0, 1, 3, 1, 2);
+        due("wed(2, 1)", z.wed(2, 1), 9);
+        dueDigest(z);
+    }
+
+    private static SmokeRings blown(SmokeRings x) {
+        for (int r = 0; r < 8; r++) x.blow(r / 2, r * 5 % 17, r % 4, 1 + r * 2 % 9, r % 3);
+        x.widens(1);
+        x.seen(0, x.bound(0, 2) == NONE ? 4 : x.bound(0, 2));
+        return x;
+    }
+
+    /** The digest against what the calls themselves tell. */
+    private static void dueDigest(SmokeRings x) {
+        long h = 17;
+        for (int what = 0; what < 8; what++) h = mixed(h, x.count(what));
+        h = mixed(h, x.fault(0), x.fault(1), x.fault(2));
+        for (int cell = 0; cell < x.count(0); cell++) h = mixed(h, x.cell(cell));
+        for (int step = 0; step < 20; step++) h = mixed(h, x.wind(step));
+        for (int r = 0; r < x.count(5); r++) {
+            for (int what = 0; what < 5; what++) h = mixed(h, x.ring(r, what));
+            for (int step : new int[] {0, 4, 9, 19}) {
+                h = mixed(h, x.at(step, r, 0), x.at(step, r, 1), x.at(step, r, 2), x.at(step, r, 3));
+            }
+            h = mixed(h, x.aim(r, 0), x.aim(r, 1), x.aim(r, 2), x.breath(r, 0), x.whence(r, NONE), x.whence(r, 0));
+        }
+        for (int t = 0; t < x.count(1); t++) {
+            h = mixed(h, x.thing(t, 0), x.thing(t, 1), x.thing(t, 2), x.bound(t, 0), x.bound(t, 1), x.bound(t, 2), x.stand(t));
+            h = mixed(h, x.hush(t, NONE), x.hush(t, 0), x.still(5, 5, t, 0, 0), x.still(5, 5, t, 0, 1));
+        }
+        for (int whom = 0; whom < 4; whom++) {
+            h = mixed(h, x.wed(whom, 0), x.wed(whom, 1), x.free(whom, 9, NONE), x.free(whom, 9, 0));
+        }
+        h = mixed(h, x.throughs(0), x.throughs(1), x.missed(), x.richest(), x.lonely(), x.calm(0), x.calm(1));
+        h = mixed(h, x.never(), x.paces(), x.ask(), x.evening(7, 6, 0), x.evening(7, 6, 1));
+        due("digest() by the calls", x.digest(), h);
     }
 
     public static void main(String[] args) {
