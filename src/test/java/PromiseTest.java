@@ -1077,18 +1077,19 @@ public final class PromiseTest {
     /** The digest against what the calls themselves tell. */
     private static void dueDigest(SmokeRings x) {
         long h = 17;
+        int cells = x.count(0), things = x.count(1), rings = x.count(5);
         for (int what = 0; what < 8; what++) h = mixed(h, x.count(what));
         h = mixed(h, x.fault(0), x.fault(1), x.fault(2));
-        for (int cell = 0; cell < x.count(0); cell++) h = mixed(h, x.cell(cell));
+        for (int cell = 0; cell < cells; cell++) h = mixed(h, x.cell(cell));
         for (int step = 0; step < 20; step++) h = mixed(h, x.wind(step));
-        for (int r = 0; r < x.count(5); r++) {
+        for (int r = 0; r < rings; r++) {
             for (int what = 0; what < 5; what++) h = mixed(h, x.ring(r, what));
             for (int step : new int[] {0, 4, 9, 19}) {
                 h = mixed(h, x.at(step, r, 0), x.at(step, r, 1), x.at(step, r, 2), x.at(step, r, 3));
             }
             h = mixed(h, x.aim(r, 0), x.aim(r, 1), x.aim(r, 2), x.breath(r, 0), x.whence(r, NONE), x.whence(r, 0));
         }
-        for (int t = 0; t < x.count(1); t++) {
+        for (int t = 0; t < things; t++) {
             h = mixed(h, x.thing(t, 0), x.thing(t, 1), x.thing(t, 2), x.bound(t, 0), x.bound(t, 1), x.bound(t, 2), x.stand(t));
             h = mixed(h, x.hush(t, NONE), x.hush(t, 0), x.still(5, 5, t, 0, 0), x.still(5, 5, t, 0, 1));
         }
