@@ -586,6 +586,9 @@ public final class RingEdgesTest {
         Due.due("missed() of 8 without a valley", x.missed(), 255);
         x = Due.with("..", "011p", "", Due.blown(0, 5, E, 1, 0), Due.blown(18, 0, E, 1, 0), Due.blown(19, 0, E, 1, 0));
         Due.due("missed(), one falls in step 19", x.missed(), 5);
+        x = Due.with(".....", "001p", "", Due.blown(0, 1, E, 1, 0), Due.blown(5, 3, E, 1, 0), Due.blown(5, 0, E, 1, 0));
+        Due.dueAt(x, 19, 0, FADED, 2, 10, 0);
+        Due.due("missed(), one has faded, one goes", x.missed(), 3);
         x = Due.with("..", "012p", "", Due.blown(18, 0, E, 1, 0), Due.blown(17, 0, E, 1, 0));
         Due.due("missed(), one would fall in step 20", x.missed(), 1);
         Due.dueBound(x, 0, 1, 19, 0);
@@ -608,7 +611,11 @@ public final class RingEdgesTest {
         Due.due("richest() of two each", household(eight, 3, 2, 1, 3, 2, 1, 0, 1).richest(), 1);
         Due.due("richest(), more are not bound", household(three, 2).richest(), 2);
         Due.due("richest(), more are not bound", household(eight, 3, 1, 3).richest(), 3);
-        Due.due("richest() is not of UPKEEP", household("009p;001t;001t", 0, 1, 1).richest(), 1);
+        SmokeRings x = Due.with("...;...", "009p;011t;021t", "", Due.blown(0, 3, N, 1, 0), Due.blown(0, 4, N, 1, 1), Due.blown(0, 5, N, 1, 1));
+        x.widens(1);
+        Due.due("wed(0, 1)", x.wed(0, 1), 27);
+        Due.due("wed(1, 1)", x.wed(1, 1), 2);
+        Due.due("richest() is not of UPKEEP", x.richest(), 1);
     }
 
     private static void lonely() {

@@ -477,6 +477,18 @@ public final class SheetEdgesTest {
         return x;
     }
 
+    private static void manyCalls() {
+        Due.sentence("An object is used for at most 512 calls after it has been made");
+        long h = full().digest();
+        SmokeRings x = full();
+        // full() took 41 + 39 + 20 bytes, 8 rings and 8 times seen
+        for (int call = 117; call < 512; call++) {
+            if (call % 2 == 1) Due.due("call " + call + ", back() or sheet()", call % 4 == 1 ? x.back() : x.sheet(0, 2, 60), call % 4 == 1 ? 7 : 60);
+            else Due.due("call " + call + ", blow() or lose()", call % 4 == 2 ? x.blow(7, 35, N, 9, 3) : x.lose(0), call % 4 == 2 ? 8 : 60);
+        }
+        Due.due("digest(), the 512th call", x.digest(), h);
+    }
+
     public static void main(String[] args) {
         sheets();
         items();
@@ -486,6 +498,7 @@ public final class SheetEdgesTest {
         digests();
         digestsByTheCalls();
         changes();
+        manyCalls();
         Due.finish();
     }
 }
