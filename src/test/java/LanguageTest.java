@@ -11,6 +11,7 @@ import java.util.ArrayList;
 import java.util.Arrays;
 import java.util.List;
 import java.util.Random;
+import java.util.TreeMap;
 import java.util.TreeSet;
 import java.util.regex.Matcher;
 import java.util.regex.Pattern;
@@ -35,13 +36,16 @@ public final class LanguageTest {
         }
     }
 
-    private static void face() {
+    private static final String[] CONSTANTS = {"int NONE = -1", "int BAD = -2", "int NOT = -3", "int FULL = -4"};
+
+    private static void face() throws IllegalAccessException {
         Class<?> c = SmokeRings.class;
         must(Modifier.isPublic(c.getModifiers()) && Modifier.isFinal(c.getModifiers()), "rule 1: public and final");
         TreeSet<String> found = new TreeSet<>();
         TreeSet<String> names = new TreeSet<>();
         for (Method m : c.getDeclaredMethods()) {
             if (Modifier.isPrivate(m.getModifiers())) continue;
+            must(Modifier.isPublic(m.getModifiers()) && !Modifier.isStatic(m.getModifiers()), "rule 1: " + m);
             String types = Arrays.toString(m.getParameterTypes()).replaceAll("[\\[\\] ]", "");
             found.add(m.getReturnType() + " " + m.getName() + "(" + types + ")");
             names.add(m.getName());
@@ -52,9 +56,12 @@ public final class LanguageTest {
         }
         TreeSet<String> constants = new TreeSet<>();
         for (Field f : c.getDeclaredFields()) {
-            if (!Modifier.isPrivate(f.getModifiers())) constants.add(f.getName());
+            int m = f.getModifiers();
+            if (Modifier.isPrivate(m)) continue;
+            must(Modifier.isPublic(m) && Modifier.isStatic(m) && Modifier.isFinal(m), "rule 1: " + f);
+            if (Modifier.isStatic(m)) constants.add(f.getType() + " " + f.getName() + " = " + f.get(null));
         }
-        must(constants.equals(new TreeSet<>(Arrays.asList("NONE", "BAD", "NOT", "FULL"))), "rule 1: the constants are " + constants);
+        must(constants.equals(new TreeSet<>(Arrays.asList(CONSTANTS))), "rule 1: the constants are " + constants);
         inside(names);
     }
 
@@ -109,6 +116,7 @@ public final class LanguageTest {
             "numberOfTrailingZeros", "numberOfLeadingZeros", "floorDiv", "floorMod", "arraycopy");
         while (library.find()) must(known.contains(library.group(2)), "rule 4: " + library.group());
         lengths(code);
+        depths(code);
     }
 
     private static void lengths(String code) {
@@ -126,6 +134,77 @@ public final class LanguageTest {
                 start = -1;
             }
         }
+    }
+
+    private static final Pattern CALLED = Pattern.compile("(\\bnew\\s+)?(\\.)?\\b([a-z]\\w*)\\(");
+    private static final List<String> NO_CALLS = Arrays.asList("if", "for", "while", "switch", "return", "this", "super");
+
+    /** How many arguments or parameters stand behind an opening bracket. */
+    private static int parts(String code, int open) {
+        int depth = 0, commas = 0;
+        for (int i = open; i < code.length(); i++) {
+            char c = code.charAt(i);
+            if (c == '(' || c == '[' || c == '{') depth++;
+            if (c == ')' || c == ']' || c == '}') depth--;
+            if (c == ',' && depth == 1) commas++;
+            if (depth == 0) return code.substring(open + 1, i).isBlank() ? 0 : commas + 1;
+        }
+        return 0;
+    }
+
+    /** The bodies of all methods, by "class.name/parameters". */
+    private static TreeMap<String, String> bodies(String code) {
+        TreeMap<String, String> bodies = new TreeMap<>();
+        Pattern head = Pattern.compile("(?m)^( {4}| {8})((?:\\w+ )*)\\w+(?:\\[\\])* (\\w+)\\(([^)]*)\\) \\{$");
+        Matcher m = head.matcher(code);
+        while (m.find()) {
+            int end = code.indexOf("\n" + m.group(1) + "}", m.end());
+            Matcher kind = Pattern.compile("\\bclass (\\w+)").matcher(code.substring(0, m.start()));
+            String owner = "";
+            while (kind.find()) owner = kind.group(1);
+            String name = owner + "." + m.group(3) + "/" + parts(code, m.start(4) - 1);
+            must(bodies.put(name, code.substring(m.end(), end)) == null, "two methods " + name);
+        }
+        return bodies;
+    }
+
+    /** What a method calls: by its bare name one of its own class, by a reference one of another class. */
+    private static TreeSet<String> called(String method, TreeMap<String, String> bodies) {
+        String owner = method.substring(0, method.indexOf('.') + 1);
+        TreeSet<String> called = new TreeSet<>();
+        Matcher m = CALLED.matcher(bodies.get(method));
+        while (m.find()) {
+            if (m.group(1) != null || NO_CALLS.contains(m.group(3))) continue;
+            String tail = "." + m.group(3) + "/" + parts(bodies.get(method), m.end() - 1);
+            for (String other : bodies.keySet()) {
+                if (other.endsWith(tail) && other.startsWith(owner) == (m.group(2) == null)) called.add(other);
+            }
+        }
+        return called;
+    }
+
+    private static int depth(String method, TreeMap<String, String> bodies, List<String> open) {
+        if (open.contains(method)) {
+            must(false, "rule 8: " + method + " comes to call itself");
+            return 0;
+        }
+        open.add(method);
+        int deepest = 0;
+        for (String other : called(method, bodies)) deepest = Math.max(deepest, depth(other, bodies, open));
+        open.remove(open.size() - 1);
+        return deepest + 1;
+    }
+
+    private static void depths(String code) {
+        TreeMap<String, String> bodies = bodies(code);
+        must(bodies.containsKey("Play.shift/2") && bodies.containsKey("SmokeRings.digest/0"), "the methods were not found");
+        int deepest = 0;
+        for (String method : bodies.keySet()) {
+            int depth = depth(method, bodies, new ArrayList<>());
+            must(depth <= 8, "rule 11: calls from " + method + " stand " + depth + " deep");
+            deepest = Math.max(deepest, depth);
+        }
+        must(deepest > 5, "the calls were not found");
     }
 
     private static int someInt(Random random) {
